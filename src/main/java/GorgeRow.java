@@ -12,9 +12,10 @@ public final class GorgeRow {
     private static final int MOST_TOLD = 6;
     private static final int LAST_TOLD_MINUTE = 8;
     private static final int NOT_AT_ALL = 9;
-    private static final int SLOTS = 2;
+    /** Rows of so many are more than 50, if there are two colours or more. */
+    private static final int ENOUGH_PEBBLES = 6;
     private static final int DEAF = 1, SINGING = 2, CARRYING = 3;
-    /** No state of a walk looks like this one: a told state is never less than 0. */
+    /** No state of a walk: those are never less than 0. */
     private static final long NOT_KEPT = -1;
 
     private final Text text = new Text();
@@ -25,14 +26,13 @@ public final class GorgeRow {
     /** How they were ahead of each ACT, so that the last ones can be undone. */
     private final long[] acts = new long[MOST_ACTS];
     private int actCount = 0;
-    private final long[] kept = new long[SLOTS];
+    private final long[] kept = {NOT_KEPT, NOT_KEPT};
     private int heardMinutes = 0;
     private int silentMinutes = 0;
     private int toldCount = 0;
     private long seedNow = 0;
 
     public GorgeRow() {
-        forgetKept();
     }
 
     // ---- the gorge
@@ -258,7 +258,7 @@ public final class GorgeRow {
         if (!within(n, 1, 4) || !within(heard, 0, (1 << n) - 1) || !isTenths(x) || !isTenths(y)) {
             return BAD;
         }
-        // Whole numbers instead of tenths: each MINUTE makes what both are parts of 100 times more.
+        // Both chances are taken 100 times for each MINUTE, so that they stay whole numbers.
         long there = 1;
         long gone = 0;
         for (int k = 0; k < n; k++) {
@@ -273,19 +273,18 @@ public final class GorgeRow {
         if (!within(c, 1, 5) || !within(n, 0, 50)) {
             return BAD;
         }
-        if (n == 0) {
-            return 0;
-        }
-        if (c == 1) {
-            return NONE;
-        }
+        int rows = 1;
         int count = 0;
-        for (int rows = 1; rows <= n; rows *= c) {
+        while (count < ENOUGH_PEBBLES && rows <= n) {
+            rows *= c;
             count++;
+        }
+        if (rows <= n) {
+            return NONE;
         }
         // Found needs rows that differ twice. One more pebble, told by the sum of the others, does
         // it; no fewer do, as such rows still differ when each one's last pebble is left away.
-        return found ? count + 1 : count;
+        return found && n > 0 ? count + 1 : count;
     }
 
     public int tell(int t, boolean heard) {

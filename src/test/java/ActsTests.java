@@ -287,17 +287,19 @@ final class ActsTests {
 
     private static void undoForgotten() {
         GorgeRow row = Rows.of("G99W50W50");
-        for (int act = 1; act <= 5; act++) {
-            row.minute(0);
+        String[] told = new String[18];
+        for (int act = 0; act < 18; act++) {
+            told[act] = tellWithoutActs(row);
+            if (act < 5 || act > 14) {
+                row.minute(0);
+            } else {
+                row.change(0);
+            }
+            Report.due("about(7) behind " + act, row.about(7), Math.min(act + 1, 14));
         }
-        for (int act = 6; act <= 17; act++) {
-            row.change(0);
-            Report.due("about(7) behind " + act, row.about(7), Math.min(act, 14));
-        }
-        row.minute(3);
-        Report.due("about(7)", row.about(7), 14);
         for (int left = 13; left >= 0; left--) {
             Report.due("undo()", row.undo(), left);
+            Report.holds("it is as it was, " + left, told[left + 4].equals(tellWithoutActs(row)));
         }
         // Eighteen ACTS were done, of which the first four are forgotten.
         Report.due("about(3)", row.about(3), 4);

@@ -9,6 +9,8 @@ public final class AllTests {
         SongsTests.run();
         HeardTests.run();
         SlotsTests.run();
+        ModelTests.run();
+        LanguageTests.run();
         if (!Report.close()) {
             System.exit(1);
         }

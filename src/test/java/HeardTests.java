@@ -28,6 +28,7 @@ final class HeardTests {
         dueStill(row, 1, 0, 5, 5, 1, 3);
         dueStill(row, 1, 1, 5, 5, 1, 1);
         dueStill(row, 1, 0, 0, 3, 7, 10);
+        dueStill(row, 1, 0, 0, 5, 1, 2);
         dueStill(row, 1, 0, 7, 2, 6, 11);
         // Heard in the first MINUTE, not in the second: bit 0 is the first one.
         dueStill(row, 2, 1, 5, 5, 1, 3);
@@ -214,6 +215,14 @@ final class HeardTests {
         row.tell(7, true);
         Report.due("letGo(true): none", row.letGo(true), 0);
         Report.due("letGo(false): 8 and not at all", row.letGo(false), 256 + 512);
+        row.untell();
+        row.tell(7, true);
+        row.tell(2, true);
+        Report.due("letGo(false): 8 and not at all, all the same", row.letGo(false), 256 + 512);
+        row.untell();
+        row.tell(2, false);
+        row.tell(7, false);
+        Report.due("letGo(true): 0, 1, 2", row.letGo(true), 7);
         // Each for itself: heard and not heard in the same MINUTE agree, if it does not sing.
         row.untell();
         row.tell(6, false);
@@ -348,6 +357,23 @@ final class HeardTests {
                 Report.due("gorges(" + call + ")", row.gorges(call), due);
             }
             Report.due("seed(0)", row.seed(0), x);
+        }
+        // Each of the five bits: all are DEAF but the one ahead of the WALKER whose bit it is.
+        for (int bit = 0; bit < 5; bit++) {
+            int ahead = bit == 0 ? 1 : bit - 1;
+            StringBuilder text = new StringBuilder("G19W01W01W01W01W01");
+            text.setCharAt(5 + 3 * ahead, '0');
+            GorgeRow row = Rows.of(text.toString());
+            if (bit == 0) {
+                row.change(0);
+            }
+            int due = 0;
+            long x = 0;
+            for (int time = 0; time < 20; time++) {
+                x = x * MULTIPLIER + ADDEND;
+                due += (bitsOf(x) >> bit & 1) == 1 ? 5 : 4;
+            }
+            Report.due("gorges(20), bit " + bit, row.gorges(20), due);
         }
         // From the QUIET there is now.
         GorgeRow row = Rows.of("G29W10W00");

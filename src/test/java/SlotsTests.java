@@ -7,6 +7,7 @@ final class SlotsTests {
         Report.test("promise 25: keep", SlotsTests::keep);
         Report.test("promise 26: again", SlotsTests::again);
         Report.test("promise 26: again, quiet and lost ones", SlotsTests::quietAndLost);
+        Report.test("promise 26: again, five and long quiet", SlotsTests::fiveAndLongQuiet);
         Report.test("promises 25 and 26: refused", SlotsTests::refused);
     }
 
@@ -83,6 +84,32 @@ final class SlotsTests {
         row.gorge();
         Report.due("again(0): what was kept is gone", row.again(0), -3);
         Report.due("again(1): what was kept is gone", row.again(1), -3);
+    }
+
+    private static void fiveAndLongQuiet() {
+        GorgeRow row = Rows.of("G99W51W51W51W51W01");
+        row.change(3);
+        for (int minutes = 0; minutes <= 9; minutes++) {
+            String due = minutes + " " + minutes + " " + minutes + " 0 " + minutes + " ";
+            Report.holds("QUIET behind " + minutes, due.equals(quiets(row)));
+            row.keep(0);
+            row.rest();
+            row.again(0);
+            Report.holds("QUIET of " + minutes + ", gone on", due.equals(quiets(row)));
+            Report.due("about(6), gone on", row.about(6), 12354);
+            row.minute(0);
+        }
+        // One of five is LOST behind what was kept with a QUIET.
+        GorgeRow five = Rows.of("G99W10W51W50W50W50");
+        five.minute(0);
+        five.keep(0);
+        Report.due("again(0)", five.again(0), 1);
+        Report.due("minute(0)", five.minute(0), 2);
+        Report.due("about(6)", five.about(6), 1345);
+        Report.due("about(4)", five.about(4), 29);
+        Report.due("undo()", five.undo(), 0);
+        Report.due("minute(0)", five.minute(0), 2);
+        Report.due("about(6)", five.about(6), 1345);
     }
 
     private static void refused() {

@@ -9,6 +9,7 @@ final class SongsTests {
         Report.test("promise 13: firstTurn", SongsTests::firstTurn);
         Report.test("promises 12 to 15: songs refused", SongsTests::songsRefused);
         Report.test("promise 14: order", SongsTests::order);
+        Report.test("promise 14: order, each one of five", SongsTests::everyOrder);
         Report.test("promise 14: order, from now on", SongsTests::orderFromNow);
         Report.test("promise 15: share", SongsTests::share);
         Report.test("promise 15: share, from now on", SongsTests::shareFromNow);
@@ -88,27 +89,27 @@ final class SongsTests {
         GorgeRow row = Rows.of("G59W00W00W00");
         int[] ns = {0, -1, 6, Integer.MIN_VALUE, Integer.MAX_VALUE};
         for (int n : ns) {
-            dueBad(row, n, 0);
+            dueBad(n, 0);
         }
-        dueBad(row, 1, -1);
-        dueBad(row, 1, 32);
-        dueBad(row, 1, 99);
-        dueBad(row, 1, 100);
-        dueBad(row, 1, 101);
-        dueBad(row, 2, 3200);
-        dueBad(row, 2, 32);
-        dueBad(row, 2, 132);
-        dueBad(row, 2, 10000);
-        dueBad(row, 2, 1000000);
-        dueBad(row, 3, 320000);
-        dueBad(row, 5, 3131313132L);
-        dueBad(row, 5, 3200000000L);
-        dueBad(row, 5, 31310031320L);
-        dueBad(row, 5, 10000000000L);
-        dueBad(row, 5, Long.MAX_VALUE);
-        dueBad(row, 5, Long.MIN_VALUE);
-        dueBad(row, 5, -3131313131L);
-        dueBad(row, 1, 4294967296L);
+        dueBad(1, -1);
+        dueBad(1, 32);
+        dueBad(1, 99);
+        dueBad(1, 100);
+        dueBad(1, 101);
+        dueBad(2, 3200);
+        dueBad(2, 32);
+        dueBad(2, 132);
+        dueBad(2, 10000);
+        dueBad(2, 1000000);
+        dueBad(3, 320000);
+        dueBad(5, 3131313132L);
+        dueBad(5, 3200000000L);
+        dueBad(5, 31310031320L);
+        dueBad(5, 10000000000L);
+        dueBad(5, Long.MAX_VALUE);
+        dueBad(5, Long.MIN_VALUE);
+        dueBad(5, -3131313131L);
+        dueBad(1, 4294967296L);
         Report.due("left(1, 31)", row.left(1, 31), 7);
         Report.due("left(2, 3131)", row.left(2, 3131), 7);
         for (int what : new int[] {-1, 2, Integer.MIN_VALUE, Integer.MAX_VALUE}) {
@@ -116,7 +117,8 @@ final class SongsTests {
         }
     }
 
-    private static void dueBad(GorgeRow row, int n, long song) {
+    private static void dueBad(int n, long song) {
+        GorgeRow row = Rows.of("G59W00W00W00");
         String arguments = "(" + n + ", " + song + ")";
         String told = Rows.told(row);
         Report.due("left" + arguments, row.left(n, song), -2);
@@ -145,6 +147,43 @@ final class SongsTests {
         dueOrder(Rows.of("G59"), 3, 60606, 0, 0);
         dueOrder(new GorgeRow(), 1, 0, 0, 0);
         dueOrder(Rows.of("G59W30"), 5, 0, 1, 1);
+    }
+
+    /**
+     * By one SONG all come out in one order alone. Parts 0 .. 4 are given to the WALKERS in all ways:
+     * part 0 treads in each MINUTE, 1 in each second one, 2 in each third one, 3 once, 4 never; and
+     * the NERVE of each part bears only what is behind it in the order 4 3 2 1 0.
+     */
+    private static void everyOrder() {
+        int[] nerves = {0, 0, 1, 2, 3};
+        int[][] minutes = {{0}, {0, 1}, {0, 2}, {0, 1, 3}, {0}};
+        int orders = 0;
+        for (int number = 0; number < 100000; number++) {
+            int[] walkerOf = {number / 10000, number / 1000 % 10, number / 100 % 10, number / 10 % 10, number % 10};
+            int bits = 0;
+            for (int walker : walkerOf) {
+                bits |= 1 << walker;
+            }
+            if (bits != 31) {
+                continue;
+            }
+            orders++;
+            StringBuilder text = new StringBuilder("G99W00W00W00W00W00");
+            int figures = 0;
+            for (int part = 4; part >= 0; part--) {
+                text.setCharAt(4 + 3 * walkerOf[part], (char) ('0' + nerves[part]));
+                figures = figures * 10 + walkerOf[part] + 1;
+            }
+            long song = 0;
+            for (int[] parts : minutes) {
+                song *= 100;
+                for (int part : parts) {
+                    song += 1 << walkerOf[part];
+                }
+            }
+            dueOrder(Rows.of(text.toString()), 5, song, figures, 5);
+        }
+        Report.due("orders that were tried", orders, 120);
     }
 
     private static void orderFromNow() {
@@ -255,6 +294,11 @@ final class SongsTests {
         Report.due("bears(1)", others.bears(1), 1);
         Report.due("bears(0)", others.bears(0), 4);
         Report.due("bears(2)", others.bears(2), -9);
+        // Two that TURN in the same MINUTE.
+        GorgeRow both = Rows.of("G99W00W00W00W00");
+        Report.due("bears(0)", both.bears(0), 1);
+        Report.due("bears(2)", both.bears(2), 1);
+        Report.due("bears(1)", both.bears(1), -9);
         // It does not TURN behind one that is the last one by then.
         GorgeRow last = Rows.of("G99W50W20W00W50");
         Report.due("bears(2)", last.bears(2), 1);
