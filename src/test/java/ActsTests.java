@@ -12,9 +12,7 @@ final class ActsTests {
         Report.test("promise 8: minute, by nerve", ActsTests::nerve);
         Report.test("promise 8: minute, from the first one on", ActsTests::fromTheFirst);
         Report.test("promise 8: minute, quiet of the last one and of a lost one", ActsTests::quietThatStays);
-        Report.test("promise 8: minute refused", ActsTests::minuteRefused);
         Report.test("promise 9: change", ActsTests::change);
-        Report.test("promise 9: change refused", ActsTests::changeRefused);
         Report.test("promise 10: rest", ActsTests::rest);
         Report.test("promise 11: undo", ActsTests::undo);
         Report.test("promise 11: undo, fourteen acts at most", ActsTests::undoForgotten);
@@ -161,27 +159,6 @@ final class ActsTests {
         dueQuiets(lost, 0, 2, 0);
     }
 
-    private static void minuteRefused() {
-        GorgeRow row = Rows.of("G19W00W00");
-        String told = Rows.told(row);
-        for (int treads : new int[] {-1, 4, 31, 32, Integer.MIN_VALUE, Integer.MAX_VALUE}) {
-            Report.due("minute(" + treads + ")", row.minute(treads), -2);
-        }
-        Report.holds("nothing changed", told.equals(Rows.told(row)));
-        Report.due("minute(3)", row.minute(3), 0);
-        Report.due("minute(3) at LIGHT", row.minute(3), -3);
-        Report.due("minute(4) at LIGHT: BAD ahead of LATE", row.minute(4), -2);
-        Report.due("about(7)", row.about(7), 1);
-        Report.due("about(3)", row.about(3), 1);
-        // The bits of a LOST one are still those of a WALKER that there is.
-        GorgeRow lost = Rows.of("G99W00W00");
-        lost.minute(0);
-        Report.due("minute(3), 1 is LOST", lost.minute(3), 0);
-        GorgeRow five = Rows.of("G99W00W00W00W00W00");
-        Report.due("minute(31) of five", five.minute(31), 0);
-        Report.due("minute(32) of five", five.minute(32), -2);
-    }
-
     private static void change() {
         GorgeRow row = Rows.of("G99W50W51W52W53W50");
         Rows.minutes(row, 0, 0);
@@ -200,30 +177,6 @@ final class ActsTests {
         Report.due("about(3): PLACE stays", row.about(3), 2);
         Report.due("walker(3, 3)", row.walker(3, 3), 2);
         Report.due("walker(3, 4)", row.walker(3, 4), 1);
-    }
-
-    private static void changeRefused() {
-        GorgeRow row = Rows.of("G29W50W50W50");
-        row.minute(0);
-        String told = Rows.told(row);
-        for (int i : new int[] {-1, 4, 5, Integer.MIN_VALUE, Integer.MAX_VALUE}) {
-            Report.due("change(" + i + ")", row.change(i), -2);
-        }
-        Report.due("change(2) of three", row.change(2), -3);
-        Report.due("change(3) of three", row.change(3), -3);
-        Report.holds("nothing changed", told.equals(Rows.told(row)));
-        Report.due("change(1) of three", row.change(1), 132);
-        row.minute(0);
-        Report.due("change(0) at LIGHT", row.change(0), -3);
-        Report.due("change(4) at LIGHT: BAD ahead of LATE", row.change(4), -2);
-        Report.due("about(7)", row.about(7), 3);
-        // Who is LOST does not count.
-        GorgeRow lost = Rows.of("G99W00W50");
-        lost.minute(0);
-        Report.due("change(0) of one", lost.change(0), -3);
-        Report.due("change(0) of nobody", Rows.of("G99").change(0), -3);
-        Report.due("change(3) of five", Rows.of("G99W00W00W00W00W00").change(3), 12354);
-        Report.due("change(3) of four", Rows.of("G99W00W00W00W00").change(3), -3);
     }
 
     private static void rest() {

@@ -9,6 +9,11 @@ public final class AllTests {
         SongsTests.run();
         HeardTests.run();
         SlotsTests.run();
+        GorgeBounds.run();
+        ActsBounds.run();
+        SongsBounds.run();
+        HeardBounds.run();
+        SlotsBounds.run();
         ModelTests.run();
         LanguageTests.run();
         if (!Report.close()) {

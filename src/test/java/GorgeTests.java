@@ -9,10 +9,8 @@ final class GorgeTests {
         Report.test("promise 3: wipe", GorgeTests::wipe);
         Report.test("promise 4: fault", GorgeTests::fault);
         Report.test("promise 5: gorge", GorgeTests::gorge);
-        Report.test("promise 5: gorge refused", GorgeTests::gorgeRefused);
         Report.test("promise 6: about", GorgeTests::about);
         Report.test("promise 7: walker", GorgeTests::walker);
-        Report.test("promise 7: walker refused", GorgeTests::walkerRefused);
     }
 
     private static void newObject() {
@@ -160,28 +158,6 @@ final class GorgeTests {
         Report.due("walker(1, 1)", row.walker(1, 1), 1);
     }
 
-    private static void gorgeRefused() {
-        for (String fault : new String[] {"", "G", "G1", "G10W", "G10W0", "G00", "G10X", "G10W00W11W22W33W50W"}) {
-            GorgeRow row = halfWay();
-            row.wipe();
-            Rows.write(row, fault);
-            String told = Rows.told(row);
-            Report.due("gorge() of " + fault, row.gorge(), -3);
-            Report.holds("nothing changed by gorge() of " + fault, told.equals(Rows.told(row)));
-            Report.due("again(1): what was kept stays", row.again(1), 1);
-        }
-    }
-
-    private static GorgeRow halfWay() {
-        GorgeRow row = Rows.of("G59W20W10W00");
-        row.minute(4);
-        row.keep(1);
-        row.minute(2);
-        row.tell(1, false);
-        row.seed(-3);
-        return row;
-    }
-
     private static void about() {
         // The second MINUTE makes 1 TURN (NERVE 0), and 2 is LOST.
         GorgeRow row = Rows.of("G34W20W00W10W51");
@@ -231,17 +207,6 @@ final class GorgeTests {
     private static void dueWalker(GorgeRow row, int walker, int[] due) {
         for (int what = 0; what < due.length; what++) {
             Report.due("walker(" + walker + ", " + what + ")", row.walker(walker, what), due[what]);
-        }
-    }
-
-    private static void walkerRefused() {
-        GorgeRow row = Rows.of("G99W10W21W32");
-        for (int walker : new int[] {-1, 3, 4, 5, 32, Integer.MIN_VALUE, Integer.MAX_VALUE}) {
-            Report.due("walker(" + walker + ", 0)", row.walker(walker, 0), -1);
-            Report.due("walker(" + walker + ", 5): UNKNOWN ahead of BAD", row.walker(walker, 5), -1);
-        }
-        for (int what : new int[] {-1, 5, Integer.MIN_VALUE, Integer.MAX_VALUE}) {
-            Report.due("walker(2, " + what + ")", row.walker(2, what), -2);
         }
     }
 }

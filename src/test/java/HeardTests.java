@@ -8,19 +8,15 @@ final class HeardTests {
 
     static void run() {
         Report.test("promise 17: still", HeardTests::still);
-        Report.test("promise 17: still refused", HeardTests::stillRefused);
         Report.test("promise 18: pebbles", HeardTests::pebbles);
         Report.test("promise 18: pebbles, by looking for the most rows", HeardTests::pebblesByLooking);
-        Report.test("promise 18: pebbles refused", HeardTests::pebblesRefused);
         Report.test("promise 19: tell", HeardTests::tell);
         Report.test("promise 20: untell", HeardTests::untell);
         Report.test("promise 21: letGo", HeardTests::letGo);
         Report.test("promise 22: link", HeardTests::link);
-        Report.test("promise 22: link refused", HeardTests::linkRefused);
         Report.test("promise 23: seed", HeardTests::seed);
         Report.test("promise 24: gorges", HeardTests::gorges);
         Report.test("promise 24: gorges, by the upper bits", HeardTests::gorgesByBits);
-        Report.test("promise 24: gorges refused", HeardTests::gorgesRefused);
     }
 
     private static void still() {
@@ -51,30 +47,6 @@ final class HeardTests {
         String arguments = "(" + n + ", " + heard + ", " + x + ", " + y + ", ";
         Report.due("still" + arguments + "true)", row.still(n, heard, x, y, true), upper);
         Report.due("still" + arguments + "false)", row.still(n, heard, x, y, false), lower);
-    }
-
-    private static void stillRefused() {
-        GorgeRow row = new GorgeRow();
-        dueStill(row, 0, 0, 5, 5, -2, -2);
-        dueStill(row, 5, 0, 5, 5, -2, -2);
-        dueStill(row, -1, 0, 5, 5, -2, -2);
-        dueStill(row, Integer.MAX_VALUE, 0, 5, 5, -2, -2);
-        dueStill(row, Integer.MIN_VALUE, 0, 5, 5, -2, -2);
-        for (int n = 1; n <= 4; n++) {
-            dueStill(row, n, -1, 5, 5, -2, -2);
-            dueStill(row, n, 1 << n, 5, 5, -2, -2);
-            dueStill(row, n, (1 << n) - 1, 5, 0, 1, 1);
-        }
-        for (int tenths : new int[] {-1, 11, Integer.MIN_VALUE, Integer.MAX_VALUE}) {
-            dueStill(row, 1, 0, tenths, 5, -2, -2);
-            dueStill(row, 1, 0, 5, tenths, -2, -2);
-        }
-        dueStill(row, 1, 1, 0, 5, -3, -3);
-        dueStill(row, 1, 0, 10, 0, -3, -3);
-        dueStill(row, 1, 1, 5, 10, -3, -3);
-        dueStill(row, 2, 2, 10, 5, -3, -3);
-        dueStill(row, 4, 7, 10, 0, -3, -3);
-        dueStill(row, 1, 1, 0, 11, -2, -2);
     }
 
     private static void pebbles() {
@@ -147,18 +119,6 @@ final class HeardTests {
             other /= c;
         }
         return differences;
-    }
-
-    private static void pebblesRefused() {
-        GorgeRow row = new GorgeRow();
-        for (int c : new int[] {0, -1, 6, Integer.MIN_VALUE, Integer.MAX_VALUE}) {
-            Report.due("pebbles(" + c + ", 0, false)", row.pebbles(c, 0, false), -2);
-            Report.due("pebbles(" + c + ", 5, true)", row.pebbles(c, 5, true), -2);
-        }
-        for (int n : new int[] {-1, 51, Integer.MIN_VALUE, Integer.MAX_VALUE}) {
-            Report.due("pebbles(1, " + n + ", false)", row.pebbles(1, n, false), -2);
-            Report.due("pebbles(3, " + n + ", true)", row.pebbles(3, n, true), -2);
-        }
     }
 
     private static void tell() {
@@ -272,19 +232,6 @@ final class HeardTests {
         Report.due("link" + arguments + "false)", row.link(v, x, n, false), lower);
     }
 
-    private static void linkRefused() {
-        GorgeRow row = new GorgeRow();
-        for (int v : new int[] {-1, 6, Integer.MIN_VALUE, Integer.MAX_VALUE}) {
-            dueLink(row, v, 5, 3, -2, -2);
-        }
-        for (int x : new int[] {-1, 11, Integer.MIN_VALUE, Integer.MAX_VALUE}) {
-            dueLink(row, 2, x, 3, -2, -2);
-        }
-        for (int n : new int[] {-1, 7, Integer.MIN_VALUE, Integer.MAX_VALUE}) {
-            dueLink(row, 2, 5, n, -2, -2);
-        }
-    }
-
     private static void seed() {
         GorgeRow row = Rows.of("G29W00W00");
         Report.due("seed(5)", row.seed(5), 0);
@@ -383,14 +330,5 @@ final class HeardTests {
         GorgeRow other = Rows.of("G29W10W00");
         other.minute(2);
         Report.due("gorges(20)", other.gorges(20), 40);
-    }
-
-    private static void gorgesRefused() {
-        GorgeRow row = Rows.of("G99W00W00");
-        row.seed(6);
-        for (int m : new int[] {0, -1, 21, Integer.MIN_VALUE, Integer.MAX_VALUE}) {
-            Report.due("gorges(" + m + ")", row.gorges(m), -2);
-        }
-        Report.due("seed(0): it stays", row.seed(0), 6);
     }
 }

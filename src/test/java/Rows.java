@@ -1,5 +1,7 @@
 /** Rows as the tests need them. */
 final class Rows {
+    private static final int MORE_THAN_ALL_ACTS = 20;
+
     private Rows() {
     }
 
@@ -54,15 +56,32 @@ final class Rows {
         return told.toString();
     }
 
-    /** told, with what can only be learnt by undoing and going on: the object is used up by it. */
+    /** THE ROW, who is LOST, QUIET and PLACE: what ACTS change and SLOTS keep. */
+    static String walk(GorgeRow row) {
+        StringBuilder walk = new StringBuilder("at ").append(row.about(3));
+        walk.append(" row ").append(row.about(6)).append(" lost ").append(row.about(5)).append(" quiet");
+        for (int walker = 0; walker < row.about(0); walker++) {
+            walk.append(' ').append(row.walker(walker, 2));
+        }
+        return walk.append(' ').toString();
+    }
+
+    /**
+     * told, with what can only be learnt by undoing, going on and making THE GORGE anew: the object
+     * is used up by it, by some 250 calls.
+     */
     static String toldToTheEnd(GorgeRow row) {
         StringBuilder told = new StringBuilder(told(row));
-        for (int undone = row.undo(); undone >= 0; undone = row.undo()) {
-            told.append(" undone ").append(told(row));
+        int undone = row.undo();
+        for (int k = 0; k < MORE_THAN_ALL_ACTS && undone >= 0; k++) {
+            told.append("undone ").append(undone).append(' ').append(walk(row));
+            undone = row.undo();
         }
+        told.append("none left ").append(undone);
         for (int slot = 0; slot <= 1; slot++) {
-            told.append(" slot ").append(row.again(slot)).append(' ').append(told(row));
+            told.append(" slot ").append(row.again(slot)).append(' ').append(walk(row));
         }
+        told.append("gorge ").append(row.gorge()).append(' ').append(told(row));
         return told.toString();
     }
 }

@@ -8,7 +8,6 @@ final class SlotsTests {
         Report.test("promise 26: again", SlotsTests::again);
         Report.test("promise 26: again, quiet and lost ones", SlotsTests::quietAndLost);
         Report.test("promise 26: again, five and long quiet", SlotsTests::fiveAndLongQuiet);
-        Report.test("promises 25 and 26: refused", SlotsTests::refused);
     }
 
     private static void keep() {
@@ -110,28 +109,6 @@ final class SlotsTests {
         Report.due("undo()", five.undo(), 0);
         Report.due("minute(0)", five.minute(0), 2);
         Report.due("about(6)", five.about(6), 1345);
-    }
-
-    private static void refused() {
-        GorgeRow row = Rows.of("G99W00W00");
-        row.minute(2);
-        String told = Rows.told(row);
-        for (int slot : new int[] {-1, 2, 3, Integer.MIN_VALUE, Integer.MAX_VALUE}) {
-            Report.due("keep(" + slot + ")", row.keep(slot), -1);
-            Report.due("again(" + slot + ")", row.again(slot), -1);
-        }
-        Report.due("again(0)", row.again(0), -3);
-        Report.due("again(1)", row.again(1), -3);
-        Report.holds("nothing changed", told.equals(Rows.told(row)));
-        row.keep(1);
-        Report.due("again(0), the other one", row.again(0), -3);
-        Report.due("about(7): ACTS stay", row.about(7), 1);
-        // Nobody can be kept, too.
-        GorgeRow nobody = new GorgeRow();
-        Report.due("keep(0) of nobody", nobody.keep(0), 0);
-        nobody.minute(0);
-        Report.due("again(0) of nobody", nobody.again(0), 0);
-        Report.due("about(10)", nobody.about(10), 0);
     }
 
     private static String quiets(GorgeRow row) {

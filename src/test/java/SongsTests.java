@@ -7,13 +7,11 @@ final class SongsTests {
         Report.test("promise 12: left", SongsTests::left);
         Report.test("promise 12: left, from now on", SongsTests::leftFromNow);
         Report.test("promise 13: firstTurn", SongsTests::firstTurn);
-        Report.test("promises 12 to 15: songs refused", SongsTests::songsRefused);
         Report.test("promise 14: order", SongsTests::order);
         Report.test("promise 14: order, each one of five", SongsTests::everyOrder);
         Report.test("promise 14: order, from now on", SongsTests::orderFromNow);
         Report.test("promise 15: share", SongsTests::share);
         Report.test("promise 15: share, from now on", SongsTests::shareFromNow);
-        Report.test("promise 15: share refused", SongsTests::shareRefused);
         Report.test("promise 16: bears", SongsTests::bears);
         Report.test("promise 16: bears, from now on", SongsTests::bearsFromNow);
         Report.test("promises 12 to 16: nothing is changed", SongsTests::nothingChanges);
@@ -83,51 +81,6 @@ final class SongsTests {
         Report.due("firstTurn(5, 0): LIGHT comes first", far.firstTurn(5, 0), -9);
         Report.due("firstTurn(1, 31) of nobody", new GorgeRow().firstTurn(1, 31), -9);
         Report.due("firstTurn(1, 0) of one", Rows.of("G99W00").firstTurn(1, 0), -9);
-    }
-
-    private static void songsRefused() {
-        GorgeRow row = Rows.of("G59W00W00W00");
-        int[] ns = {0, -1, 6, Integer.MIN_VALUE, Integer.MAX_VALUE};
-        for (int n : ns) {
-            dueBad(n, 0);
-        }
-        dueBad(1, -1);
-        dueBad(1, 32);
-        dueBad(1, 99);
-        dueBad(1, 100);
-        dueBad(1, 101);
-        dueBad(2, 3200);
-        dueBad(2, 32);
-        dueBad(2, 132);
-        dueBad(2, 10000);
-        dueBad(2, 1000000);
-        dueBad(3, 320000);
-        dueBad(5, 3131313132L);
-        dueBad(5, 3200000000L);
-        dueBad(5, 31310031320L);
-        dueBad(5, 10000000000L);
-        dueBad(5, Long.MAX_VALUE);
-        dueBad(5, Long.MIN_VALUE);
-        dueBad(5, -3131313131L);
-        dueBad(1, 4294967296L);
-        Report.due("left(1, 31)", row.left(1, 31), 7);
-        Report.due("left(2, 3131)", row.left(2, 3131), 7);
-        for (int what : new int[] {-1, 2, Integer.MIN_VALUE, Integer.MAX_VALUE}) {
-            Report.due("order(1, 0, " + what + ")", row.order(1, 0, what), -2);
-        }
-    }
-
-    private static void dueBad(int n, long song) {
-        GorgeRow row = Rows.of("G59W00W00W00");
-        String arguments = "(" + n + ", " + song + ")";
-        String told = Rows.told(row);
-        Report.due("left" + arguments, row.left(n, song), -2);
-        Report.due("firstTurn" + arguments, row.firstTurn(n, song), -2);
-        Report.due("order" + arguments, row.order(n, song, 0), -2);
-        Report.due("order" + arguments, row.order(n, song, 1), -2);
-        Report.due("share" + arguments, row.share(2, n, song, true), -2);
-        Report.due("share" + arguments, row.share(0, n, song, false), -2);
-        Report.holds("nothing changed by " + arguments, told.equals(Rows.told(row)));
     }
 
     private static void order() {
@@ -264,18 +217,6 @@ final class SongsTests {
         odd.minute(0);
         dueShare(odd, 0, 1, 2, 1, 1);
         dueShare(odd, 1, 1, 2, 0, 1);
-    }
-
-    private static void shareRefused() {
-        GorgeRow row = Rows.of("G59W00W00W00");
-        row.minute(0);
-        for (int walker : new int[] {-1, 3, 5, 32, Integer.MIN_VALUE, Integer.MAX_VALUE}) {
-            Report.due("share(" + walker + ", 1, 0)", row.share(walker, 1, 0, true), -1);
-            Report.due("share(" + walker + ", 0, 0): UNKNOWN ahead of BAD", row.share(walker, 0, 0, true), -1);
-        }
-        Report.due("share(1, 6, 0), LOST: BAD", row.share(1, 6, 0, true), -2);
-        Report.due("share(1, 1, 32), LOST: BAD", row.share(1, 1, 32, true), -2);
-        dueShare(row, 1, 1, 0, 0, 1);
     }
 
     private static void dueShare(GorgeRow row, int walker, int n, long song, int upper, int lower) {
