@@ -16,6 +16,7 @@ public final class AllTests {
         SlotsBounds.run();
         ModelTests.run();
         LanguageTests.run();
+        ReadmeTests.run();
         if (!Report.close()) {
             System.exit(1);
         }
